@@ -602,7 +602,8 @@ public final class PeerOverlay {
             advance();
             for (int statements = 0; statements < MOST_BYTES && kind != END; statements++) {
                 readStatement();
-                expect(';');
+                require(';');
+                advance();
             }
             return error;
         }
@@ -720,6 +721,7 @@ public final class PeerOverlay {
                 advance();
             } else if (kind == WORD) {
                 readInput();
+                advance();
             } else if (kind != '(') {
                 fail(NOT_ALLOWED);
             } else if (brackets >= MOST_BRACKETS) {
@@ -727,7 +729,8 @@ public final class PeerOverlay {
             } else {
                 advance();
                 readSum(brackets + 1);
-                expect(')');
+                require(')');
+                advance();
             }
         }
 
@@ -745,13 +748,10 @@ public final class PeerOverlay {
             } else {
                 fail(NOT_ALLOWED);
             }
-            advance();
         }
 
-        private void expect(int sign) {
-            if (kind == sign) {
-                advance();
-            } else {
+        private void require(int sign) {
+            if (kind != sign) {
                 fail(NOT_ALLOWED);
             }
         }
@@ -813,17 +813,18 @@ public final class PeerOverlay {
         }
 
         private void takeSign() {
-            switch (text[next]) {
+            int sign = text[next];
+            next++;
+            switch (sign) {
                 case ';':
                 case '(':
                 case ')':
                 case '+':
                 case '-':
                 case '*':
-                case '/': kind = text[next]; break;
+                case '/': kind = sign; break;
                 default: kind = INVALID; break;
             }
-            next++;
         }
     }
 

@@ -85,6 +85,15 @@ public final class LinksTest {
         Check.same("31: all travel on the direct path", x.setLink(0, 1, false), 3);
         Check.same("25: anew over 2", x.ticksToDeliver(0), 7);
         Check.same("31: a link of no session", x.setLink(0, 4, false), 0);
+        x.setLink(0, 4, true);
+        Check.same("31: the other way", x.setLink(4, 0, false), 0);
+        Check.same("31: with the receiver", x.setLink(1, 4, false), 0);
+        x.setLink(1, 4, true);
+        Check.same("31: with the receiver, the other way", x.setLink(4, 1, false), 0);
+        Check.same("16: the path stays", x.path(0), 2);
+        x.setLink(1, 3, true);
+        Check.same("31: of another relay", x.setLink(3, 1, false), 0);
+        Check.same("19: all travel", x.messages(0, 1), 3);
     }
 
     private static void oldPathGoes() {

@@ -79,6 +79,31 @@ public final class OverlayTest {
         Check.same("3: the empty text again", x.parse(0), 0);
         Check.same("4: no position after a success", x.errorPosition(), -1);
         Check.same("5: no peers any more", x.peerCount(), 0);
+        cutTokens();
+    }
+
+    /** What stands behind the length does not belong to a token that ends there. */
+    private static void cutTokens() {
+        PeerOverlay x = new PeerOverlay();
+        Check.feed(x, "keys 12");
+        Check.same("3: a number is cut", x.parse(6), 1);
+        Check.same("4: at the end", x.errorPosition(), 6);
+        Check.feed(x, "keys 12345");
+        Check.same("3: a long number is cut, so it is one", x.parse(9), 3);
+        Check.same("4: at its place", x.errorPosition(), 5);
+        Check.feed(x, "probes 1 1;");
+        Check.same("3: a word is cut", x.parse(5), 1);
+        Check.same("4: at the end", x.errorPosition(), 5);
+        for (String sign : new String[] {"a", "z", "1", "(", " "}) {
+            Check.feed(x, sign.repeat(600));
+            Check.same("3: 600 times " + sign, x.parse(600), sign.equals(" ") ? 0 : 1);
+            Check.same("4: 600 times " + sign, x.errorPosition(), sign.equals(" ") ? -1 : 0);
+        }
+        Check.feed(x, "score " + "1+".repeat(296) + "1;");
+        Check.same("3: 600 bytes", x.parse(600), 0);
+        Check.same("3: a long sum", Check.parse(x, "peer 1 1; peer 1 1; peer 1 1; link 0 2 1; link 2 1 1;"
+                + "knows 0 2; knows 1 2; score " + "1+".repeat(250) + "1;"), 0);
+        Check.same("13: its value", x.relayScore(2, 0, 1), 251);
     }
 
     private static void parseReplaces() {
@@ -156,6 +181,9 @@ public final class OverlayTest {
         Check.faulty("peer -1 1;", 1, 5);
         Check.faulty("peers 1 1;", 1, 0);
         Check.faulty("pee 1 1;", 1, 0);
+        Check.faulty("beer 1 1;", 1, 0);
+        Check.faulty("peek 1 1;", 1, 0);
+        Check.faulty("score lead;", 1, 6);
         Check.faulty("7 1;", 1, 0);
         Check.faulty("peer 1 1;;", 1, 9);
         Check.faulty("first;", 1, 0);
