@@ -11,6 +11,7 @@ public final class ChangesBoundariesTest {
         nothingToUndo();
         latestTen();
         eachStepBack();
+        messagesAreTheSame();
         undoneAreGone();
         undoIsNoChange();
         everyChangeCounts();
@@ -103,6 +104,9 @@ public final class ChangesBoundariesTest {
             PeerOverlay x = after(steps);
             Check.same("33: left after step " + steps, x.undo(), Math.min(steps, 10) - 1);
             Everything.same("33: step " + steps + " is undone", x, after(steps - 1));
+            PeerOverlay on = after(steps);
+            on.undo();
+            goesOnAs("33: after step " + steps + " was undone", on, after(steps - 1));
         }
         for (int back = 2; back <= 10; back++) {
             PeerOverlay x = after(STEPS);
@@ -110,6 +114,54 @@ public final class ChangesBoundariesTest {
                 Check.same("33: left", x.undo(), 10 - done);
             }
             Everything.same("33: " + back + " steps back", x, after(STEPS - back));
+        }
+    }
+
+    /** What is not seen at once, such as the values and keys of messages that travel, is seen when they are delivered. */
+    private static void goesOnAs(String what, PeerOverlay x, PeerOverlay due) {
+        for (int times = 0; times < 12; times++) {
+            Check.same(what + ": delivered", x.run(4), due.run(4));
+            for (int session = 0; session < 6; session++) {
+                if ((due.sessions() >> session & 1) != 0) {
+                    Check.same(what + ": digest", x.digest(session), due.digest(session));
+                    Check.same(what + ": oldestKey", x.oldestKey(session), due.oldestKey(session));
+                }
+            }
+        }
+    }
+
+    /** Keys and values of messages come back, though others stood in their places since. */
+    private static void messagesAreTheSame() {
+        for (int way = 0; way < 2; way++) {
+            PeerOverlay x = Check.overlay("peer 1 1; peer 1 1; link 0 1 3; knows 0 1; probe 1 1; keys 2;");
+            x.open(0, 1);
+            x.run(1);
+            x.send(0, 7);
+            x.run(3);
+            // Another path, another key: in the later session the second message has key 0.
+            x.setLink(0, 1, false);
+            x.setLink(0, 1, true);
+            x.run(1);
+            x.send(0, 8);
+            x.send(0, 9);
+            x.saveSnapshot(0);
+            x.run(3);
+            x.close(0);
+            x.open(1, 0);
+            x.run(1);
+            x.send(0, 70);
+            x.send(0, 80);
+            x.send(0, 90);
+            if (way == 0) {
+                Check.same("35: the tick", x.restoreSnapshot(0), 5);
+            } else {
+                for (int left = 9; left > 2; left--) {
+                    Check.same("33: left", x.undo(), left);
+                }
+            }
+            Check.same("23: the key of the second", x.oldestKey(0), 1);
+            Check.same("27: both", x.run(3), 2);
+            Check.same("21: their values", x.digest(0), (7 * 31 + 8) * 31 + 9);
         }
     }
 
@@ -260,6 +312,8 @@ public final class ChangesBoundariesTest {
             PeerOverlay due = after(steps);
             Check.same("35: the number of the tick then", x.restoreSnapshot(steps % 2), due.tick());
             Everything.same("35: as after step " + steps, x, due);
+            x.restoreSnapshot(steps % 2);
+            goesOnAs("35: after step " + steps, x, after(steps));
         }
     }
 

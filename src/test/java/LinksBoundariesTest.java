@@ -19,6 +19,7 @@ public final class LinksBoundariesTest {
         linkOfBothDirections();
         upMovesNothing();
         eachLinkOfAPath();
+        firstAndLastPeer();
         oldPathUsesTheLink();
         successesOfAPath();
         bestRelayThen();
@@ -173,6 +174,29 @@ public final class LinksBoundariesTest {
                 Check.same("16: after " + a + " " + b, x.path(0), at < 2 ? 3 : 2);
                 Check.same("22: after " + a + " " + b, x.key(0), at < 2 ? 1 : 0);
                 Check.same("25: after " + a + " " + b, x.ticksToDeliver(0), at < 2 ? 50 : 5);
+            }
+        }
+    }
+
+    /** The first and the last peer are relays, senders and receivers like others. */
+    private static void firstAndLastPeer() {
+        int[][] triples = {{0, 3, 4}, {7, 3, 4}, {3, 0, 7}, {3, 7, 0}};
+        for (int[] triple : triples) {
+            for (int end = 1; end <= 2; end++) {
+                int relay = triple[0];
+                PeerOverlay x = Check.overlay("peer 1 1;".repeat(8) + "link " + relay + " " + triple[1] + " 3; link " + relay + " "
+                        + triple[2] + " 4; knows " + relay + " " + triple[1] + "; knows " + relay + " " + triple[2]
+                        + "; knows " + triple[1] + " " + triple[2] + ";");
+                x.open(triple[1], triple[2]);
+                Check.same("16: the relay", x.path(0), relay);
+                x.send(0, 1);
+                Check.same("31: its message", x.setLink(relay, triple[end], false), 1);
+                Check.same("16: none", x.path(0), -1);
+                Check.same("11: no load", x.load(relay), 0);
+                x.setLink(triple[end], relay, true);
+                x.run(1);
+                Check.same("16: the relay again", x.path(0), relay);
+                Check.same("27: its message", x.run(7), 1);
             }
         }
     }

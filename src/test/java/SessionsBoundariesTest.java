@@ -35,9 +35,12 @@ public final class SessionsBoundariesTest {
         oldPathEmptyAtOnce();
         relayInStepThree();
         stepsInOrder();
+        probesBeforeRelays();
+        allProbesBeforeAnyRelay();
         closeReturns();
         closeRefuses();
         closeFrees();
+        numberUsedAgain();
         Check.finish();
     }
 
@@ -501,6 +504,44 @@ public final class SessionsBoundariesTest {
         Check.same("16: free since step 4", y.path(1), 2);
     }
 
+    /** Step 2 comes before step 3: a session that becomes direct looks for no relay. */
+    private static void probesBeforeRelays() {
+        PeerOverlay x = Check.overlay(TWO_RELAYS + "probe 4 1;");
+        x.setLink(0, 2, false);
+        x.setLink(0, 3, false);
+        x.open(0, 1);
+        x.send(0, 1);
+        x.run(3);
+        x.setLink(0, 2, true);
+        x.run(1);
+        Check.same("16: direct from none", x.path(0), 100);
+        Check.same("17: there was no relay", x.oldPath(0), -1);
+        Check.same("22: the path changed once", x.key(0), 1);
+        Check.same("25: along the direct path", x.ticksToDeliver(0), 10);
+    }
+
+    /** Step 2 is done for all sessions before step 3: what a higher one leaves by its probe, a lower one finds. */
+    private static void allProbesBeforeAnyRelay() {
+        PeerOverlay x = Check.overlay(TWO_RELAYS + "peer 1 1; link 3 4 1; knows 0 4; knows 3 4; probe 1 1; score 0 - first;");
+        x.open(2, 0);
+        x.open(0, 1);
+        Check.same("16: the slow relay", x.path(1), 3);
+        x.close(0);
+        x.open(0, 4);
+        Check.same("16: the same relay is full", x.path(0), -1);
+        x.send(1, 1);
+        x.run(1);
+        Check.same("17: it is an old path", x.oldPath(1), 3);
+        x.setLink(0, 1, false);
+        Check.same("16: the fast relay", x.path(1), 2);
+        x.send(1, 2);
+        x.setLink(0, 1, true);
+        Check.same("11: still full", x.load(3), 1);
+        x.run(1);
+        Check.same("17: replaced in step 2", x.oldPath(1), 2);
+        Check.same("16: found in step 3", x.path(0), 3);
+    }
+
     /** "Returns the number of messages that were sent in it." */
     private static void closeReturns() {
         PeerOverlay x = Check.overlay(TWO_RELAYS);
@@ -550,5 +591,32 @@ public final class SessionsBoundariesTest {
         Check.same("16: the others stay", x.path(1), 3);
         x.open(0, 1);
         Check.same("16: taken again", x.path(0), 2);
+    }
+
+    /** A session with a number that was used before begins like any new one. */
+    private static void numberUsedAgain() {
+        PeerOverlay used = Check.overlay(TWO_RELAYS + "probe 3 9; keys 2;");
+        used.open(1, 0);
+        for (int sent = 0; sent < 24; sent++) {
+            used.send(0, sent + 1);
+        }
+        used.run(25);
+        used.send(0, 1);
+        used.run(5);
+        Check.same("22: it had keys", used.key(0), 13);
+        Check.same("16: it became direct", used.path(0), 100);
+        used.setLink(0, 1, false);
+        used.setLink(0, 1, true);
+        used.run(3);
+        used.send(0, 1);
+        Check.same("24: it had a message with its last key", used.keyStart(0), 25);
+        Check.same("18: it had successes", used.successes(0), 1);
+        used.run(5);
+        used.close(0);
+        used.open(0, 1);
+        PeerOverlay fresh = Check.overlay(TWO_RELAYS + "probe 3 9; keys 2;");
+        fresh.run(38);
+        fresh.open(0, 1);
+        Everything.same("29: all anew", used, fresh);
     }
 }

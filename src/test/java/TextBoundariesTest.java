@@ -14,6 +14,7 @@ public final class TextBoundariesTest {
         parseLength();
         parseShorterThanBuffer();
         parseReplacesAll();
+        parseReplacesAgain();
         parseErrorChangesNothing();
         errorPositions();
         longestText();
@@ -150,6 +151,44 @@ public final class TextBoundariesTest {
         Check.same("33: no history there", emptied.undo(), -1);
     }
 
+    /** "On success the described overlay replaces the current one": nothing of any earlier text, or of a faulty one, is left. */
+    private static void parseReplacesAgain() {
+        StringBuilder full = new StringBuilder("peer1 1;".repeat(8));
+        for (int a = 0; a < 8; a++) {
+            for (int b = 0; b < a; b++) {
+                full.append("link").append(a).append(' ').append(b).append(" 5;knows").append(b).append(' ').append(a).append(';');
+            }
+        }
+        for (int faulty = 0; faulty < 2; faulty++) {
+            PeerOverlay x = new PeerOverlay();
+            Check.same("3: full", Check.parse(x, full.toString()), 0);
+            Check.same("3: full again", Check.parse(x, full.toString() + (faulty == 0 ? "" : "?")), faulty);
+            Check.same("3: without links", Check.parse(x, EIGHT), 0);
+            expectNoPairs(x);
+            Check.same("3: without links again", Check.parse(x, EIGHT), 0);
+            expectNoPairs(x);
+            Check.same("3: no peers", x.parse(0), 0);
+            Check.same("5: none", x.peerCount(), 0);
+        }
+        PeerOverlay scores = new PeerOverlay();
+        String relay = "peer 1 1; peer 1 1; peer 1 1; link 0 2 5; link 2 1 8; knows 0 2; knows 1 2;";
+        for (int times = 0; times < 8; times++) {
+            Check.same("3: a long score", Check.parse(scores, relay + "score " + "1+".repeat(200) + times + ";"), 0);
+            Check.same("13: its value", scores.relayScore(2, 0, 1), 200 + times);
+            Check.same("3: no score", Check.parse(scores, relay), 0);
+            Check.same("13: as without its statement", scores.relayScore(2, 0, 1), 13);
+        }
+    }
+
+    private static void expectNoPairs(PeerOverlay x) {
+        for (int a = 0; a < 8; a++) {
+            for (int b = 0; b < 8; b++) {
+                Check.same("8: delay " + a + " " + b, x.delay(a, b), -1);
+                Check.no("7: knows " + a + " " + b, x.knows(a, b));
+            }
+        }
+    }
+
     /** "On a parse error nothing changes except that the buffer is emptied" */
     private static void parseErrorChangesNothing() {
         String[] faulty = {"?", "keys 1; keys 1;", "peer 10 1;", EIGHT + "peer 1 1;", TWO + "knows 0 0;",
@@ -263,9 +302,11 @@ public final class TextBoundariesTest {
             "capacity", "zones"}) {
             Check.faulty(word.substring(0, word.length() - 1) + " 1 1;", 1, 0);
             Check.faulty(word.substring(1) + " 1 1;", 1, 0);
+            Check.faulty("x" + word.substring(1) + " 1 1;", 1, 0);
             Check.faulty(word + "s 1 1;", 1, 0);
             Check.faulty(word.toUpperCase() + " 1 1;", 1, 0);
             Check.faulty("score " + word.substring(0, word.length() - 1) + ";", 1, 6);
+            Check.faulty("score x" + word.substring(1) + ";", 1, 6);
             Check.faulty("score " + word + "s;", 1, 6);
         }
         Check.faulty("z".repeat(600), 1, 0);

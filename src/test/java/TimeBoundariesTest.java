@@ -21,6 +21,7 @@ public final class TimeBoundariesTest {
         directNever();
         predictionsWithOthers();
         predictionsChangeNothing();
+        predictionsAtTheLastTick();
         Check.finish();
     }
 
@@ -252,5 +253,20 @@ public final class TimeBoundariesTest {
         Check.same("33: nor the history", x.undo(), 9);
         Check.same("6: before the run", x.tick(), 0);
         Check.same("35: nor the slots", x.restoreSnapshot(0), 5);
+    }
+
+    /** Only run is said to refuse ticks beyond 9999; a prediction counts them like others (the document leaves it open). */
+    private static void predictionsAtTheLastTick() {
+        PeerOverlay x = Check.overlay(TRIANGLE + "probe 2 1;");
+        for (int times = 0; times < 33; times++) {
+            x.run(300);
+        }
+        x.run(99);
+        x.open(0, 1);
+        x.send(0, 1);
+        Check.same("25: 30 ticks", x.ticksToDeliver(0), 30);
+        Check.same("26: 2 ticks", x.ticksToDirect(0), 2);
+        Check.same("6: no time has passed", x.tick(), 9999);
+        Check.badState("27: nor can it", () -> x.run(1));
     }
 }
