@@ -178,6 +178,11 @@ public final class TextBoundariesTest {
             Check.same("3: no score", Check.parse(scores, relay), 0);
             Check.same("13: as without its statement", scores.relayScore(2, 0, 1), 13);
         }
+        PeerOverlay often = new PeerOverlay();
+        for (int times = 0; times < 50; times++) {
+            Check.same("3: no score", Check.parse(often, relay), 0);
+            Check.same("13: the same after each text", often.relayScore(2, 0, 1), 13);
+        }
     }
 
     private static void expectNoPairs(PeerOverlay x) {
