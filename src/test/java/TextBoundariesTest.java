@@ -180,8 +180,9 @@ public final class TextBoundariesTest {
         }
         PeerOverlay often = new PeerOverlay();
         for (int times = 0; times < 50; times++) {
-            Check.same("3: no score", Check.parse(often, relay), 0);
-            Check.same("13: the same after each text", often.relayScore(2, 0, 1), 13);
+            Check.same("3: no score", Check.parse(often, relay + "knows 0 1;"), 0);
+            often.open(0, 1);
+            Check.same("13: the same after each text", often.relayScore(2, 0, 1), 23);
         }
     }
 
